@@ -1,0 +1,162 @@
+import java.io.IOException;
+import java.lang.reflect.Constructor;
+import java.lang.reflect.Field;
+import java.lang.reflect.Method;
+import java.lang.reflect.Modifier;
+import java.nio.file.Files;
+import java.nio.file.Path;
+import java.util.ArrayDeque;
+import java.util.Arrays;
+import java.util.Deque;
+import java.util.Set;
+import java.util.TreeSet;
+import java.util.regex.Matcher;
+import java.util.regex.Pattern;
+
+// The public face of the document, and those rules of LANGUAGE.md that can be seen from the class's
+// members or looked up in its text. It is run from the project's folder, as .ci/run does.
+public final class LanguageTest {
+    private static final Path SOURCE = Path.of("src/main/java/TightDomains.java");
+
+    private static final Set<String> FACE = Set.of(
+            "int domain(int, int)", "int allow(int, int, int)", "int capacity(int, int)",
+            "boolean fillable()", "int most()", "int support(int)", "int prune()", "int first(int)",
+            "int count()", "int exhausted()", "int unused()", "int lack()", "int tight()",
+            "int spareable()", "int missing()");
+
+    // Rules 1, 2, 3, 4, 6 and 11: none of these may stand in the text outside comments.
+    private static final String[] FORBIDDEN_WORDS = {
+            "package", "import", "interface", "enum", "record", "float", "double", "String", "Math",
+            "Integer", "System", "Arrays", "Object", "Thread", "null", "throw", "throws", "try",
+            "catch", "synchronized", "assert", "instanceof", "protected", "native", "extends",
+            "implements", "equals", "hashCode", "toString", "getClass", "clone", "length"};
+    private static final String[] FORBIDDEN_SIGNS = {"->", "::", "\"", "'", "[][]", "@"};
+
+    private static final Set<String> NOT_CALLS = Set.of("if", "for", "while", "switch", "return");
+
+    private static int wrong = 0;
+
+    private static void due(boolean holds, String rule) {
+        if (!holds) {
+            wrong++;
+            System.out.println("not kept: " + rule);
+        }
+    }
+
+    private static void lookAtFace() {
+        Class<?> type = TightDomains.class;
+        int modifiers = type.getModifiers();
+        due(Modifier.isPublic(modifiers) && Modifier.isFinal(modifiers), "the class is public and final");
+        due(type.getSuperclass() == Object.class && type.getInterfaces().length == 0, "the class stands alone");
+        due(type.getDeclaredClasses().length == 0, "no nested class");
+        Constructor<?>[] constructors = type.getDeclaredConstructors();
+        due(constructors.length == 1 && Modifier.isPublic(constructors[0].getModifiers())
+                && constructors[0].getParameterCount() == 0, "one public constructor without arguments");
+    }
+
+    private static void lookAtMethods() {
+        Set<String> found = new TreeSet<>();
+        Set<String> publicNames = new TreeSet<>();
+        for (Method m : TightDomains.class.getDeclaredMethods()) {
+            due(m.getParameterCount() <= 7, "at most seven parameters: " + m.getName());
+            if (Modifier.isPublic(m.getModifiers())) {
+                String parameters = Arrays.toString(m.getParameterTypes());
+                found.add(m.getReturnType() + " " + m.getName() + parameters.replace('[', '(').replace(']', ')'));
+                publicNames.add(m.getName());
+                due(!Modifier.isStatic(m.getModifiers()), "no public static method: " + m.getName());
+            }
+        }
+        due(found.equals(FACE), "the public methods are those of the document, not " + found);
+        for (Method m : TightDomains.class.getDeclaredMethods()) {
+            int modifiers = m.getModifiers();
+            due(Modifier.isPublic(modifiers) || Modifier.isPrivate(modifiers), "public or private: " + m.getName());
+            due(Modifier.isPublic(modifiers) || !publicNames.contains(m.getName()), "a name of its own: " + m.getName());
+            due(!m.getReturnType().isArray(), "no array answered: " + m.getName());
+        }
+    }
+
+    private static void lookAtFields() {
+        Set<String> publicNames = new TreeSet<>();
+        int beside = 0;
+        for (Field f : TightDomains.class.getDeclaredFields()) {
+            int modifiers = f.getModifiers();
+            if (Modifier.isPublic(modifiers)) {
+                publicNames.add(f.getType() + " " + f.getName());
+            }
+            due(Modifier.isPublic(modifiers) || Modifier.isPrivate(modifiers), "public or private: " + f.getName());
+            if (Modifier.isStatic(modifiers)) {
+                due(Modifier.isFinal(modifiers) && (f.getType() == int.class || f.getType() == long.class),
+                        "a static field is a constant of int or long: " + f.getName());
+            } else {
+                beside++;
+            }
+        }
+        due(publicNames.equals(Set.of("int BAD_ARG", "int NONE")), "the public constants are those of the document");
+        due(beside <= 40, "at most forty fields beside the constants");
+    }
+
+    private static void lookAtWords(String text) {
+        for (String word : FORBIDDEN_WORDS) {
+            due(!Pattern.compile("\\b" + word + "\\b").matcher(text).find(), "without the word " + word);
+        }
+        for (String sign : FORBIDDEN_SIGNS) {
+            due(!text.contains(sign), "without the sign " + sign);
+        }
+        Matcher made = Pattern.compile("\\bnew\\b").matcher(text);
+        Matcher madeInFields = Pattern.compile(
+                "(?m)^    private final \\w+\\[\\] \\w+ = new \\w+\\[[A-Z_]+\\];$").matcher(text);
+        due(made.results().count() == madeInFields.results().count(), "arrays are made in fields' initialisers alone");
+    }
+
+    // Rule 10. A word before a bracket is a call, or the head of a method, which has no calls in it.
+    private static void lookAtCalls(String text) {
+        Deque<Boolean> open = new ArrayDeque<>();
+        String word = "";
+        for (int at = 0; at < text.length(); at++) {
+            char c = text.charAt(at);
+            if (Character.isJavaIdentifierPart(c)) {
+                word += c;
+            } else if (c == '(') {
+                boolean call = !word.isEmpty() && !NOT_CALLS.contains(word);
+                due(!call || !open.contains(true), "no call inside a call's arguments: " + word);
+                open.push(call);
+                word = "";
+            } else if (c == ')') {
+                open.pop();
+                word = "";
+            } else if (!Character.isWhitespace(c) || !NOT_CALLS.contains(word)) {
+                word = "";
+            }
+        }
+    }
+
+    // Rules 8 and 10. A method starts at four blanks and ends at a line of four blanks and a brace.
+    private static void lookAtMethodBodies(String text) {
+        Matcher bodies = Pattern.compile("(?ms)^    \\w[^;=\\n]*?(\\w+)\\([^)]*\\) \\{$(.*?)^    \\}$").matcher(text);
+        int seen = 0;
+        while (bodies.find()) {
+            seen++;
+            String name = bodies.group(1);
+            String body = bodies.group(2);
+            due(body.lines().count() <= 60, "at most sixty lines: " + name);
+            due(!Pattern.compile("\\b" + name + "\\(").matcher(body).find(), "no recursion: " + name);
+        }
+        int declared = TightDomains.class.getDeclaredMethods().length + 1;
+        due(seen == declared, "every method is looked at: " + seen + " of " + declared);
+    }
+
+    public static void main(String[] args) throws IOException {
+        String source = Files.readString(SOURCE);
+        String text = source.replaceAll("(?s)/\\*.*?\\*/", "").replaceAll("//[^\\n]*", "");
+        lookAtFace();
+        lookAtMethods();
+        lookAtFields();
+        lookAtWords(text);
+        lookAtCalls(text);
+        lookAtMethodBodies(text);
+        System.out.println(wrong == 0 ? "every rule looked at is kept" : wrong + " rules are not kept");
+        if (wrong != 0) {
+            System.exit(1);
+        }
+    }
+}
