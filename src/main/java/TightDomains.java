@@ -105,7 +105,7 @@ public final class TightDomains {
 
     /** Makes every domain the support of its place; answers how many values went out. */
     public int prune() {
-        if (!fillable()) {
+        if (firstFilling() == NONE) {
             return NONE;
         }
         int gone = 0;
@@ -140,7 +140,7 @@ public final class TightDomains {
 
     /** The set of the values with a capacity above 0 that every filling uses up. */
     public int exhausted() {
-        if (!fillable()) {
+        if (firstFilling() == NONE) {
             return NONE;
         }
         int set = ALL_VALUES;
@@ -154,7 +154,7 @@ public final class TightDomains {
 
     /** The set of the values that no filling uses. */
     public int unused() {
-        if (!fillable()) {
+        if (firstFilling() == NONE) {
             return NONE;
         }
         int used = 0;

@@ -8,7 +8,9 @@ import java.nio.file.Path;
 import java.util.ArrayDeque;
 import java.util.Arrays;
 import java.util.Deque;
+import java.util.Map;
 import java.util.Set;
+import java.util.TreeMap;
 import java.util.TreeSet;
 import java.util.regex.Matcher;
 import java.util.regex.Pattern;
@@ -132,17 +134,29 @@ public final class LanguageTest {
 
     // Rules 8 and 10. A method starts at four blanks and ends at a line of four blanks and a brace.
     private static void lookAtMethodBodies(String text) {
-        Matcher bodies = Pattern.compile("(?ms)^    \\w[^;=\\n]*?(\\w+)\\([^)]*\\) \\{$(.*?)^    \\}$").matcher(text);
-        int seen = 0;
-        while (bodies.find()) {
-            seen++;
-            String name = bodies.group(1);
-            String body = bodies.group(2);
-            due(body.lines().count() <= 60, "at most sixty lines: " + name);
-            due(!Pattern.compile("\\b" + name + "\\(").matcher(body).find(), "no recursion: " + name);
+        Matcher found = Pattern.compile("(?ms)^    \\w[^;=\\n]*?(\\w+)\\([^)]*\\) \\{$(.*?)^    \\}$").matcher(text);
+        Map<String, String> bodies = new TreeMap<>();
+        while (found.find()) {
+            bodies.put(found.group(1), found.group(2));
+            due(found.group(2).lines().count() <= 60, "at most sixty lines: " + found.group(1));
         }
         int declared = TightDomains.class.getDeclaredMethods().length + 1;
-        due(seen == declared, "every method is looked at: " + seen + " of " + declared);
+        due(bodies.size() == declared, "every method is looked at: " + bodies.size() + " of " + declared);
+        for (String name : bodies.keySet()) {
+            due(depthOf(name, bodies, 1) <= 6, "no recursion, and calls at most six deep: " + name);
+        }
+    }
+
+    private static int depthOf(String name, Map<String, String> bodies, int depth) {
+        int deepest = depth;
+        for (String called : bodies.keySet()) {
+            boolean calls = Pattern.compile("\\b" + called + "\\(").matcher(bodies.get(name)).find();
+            // Beyond seven it is too deep already, and recursion would have no end.
+            if (calls && depth < 7) {
+                deepest = Math.max(deepest, depthOf(called, bodies, depth + 1));
+            }
+        }
+        return deepest;
     }
 
     public static void main(String[] args) throws IOException {
