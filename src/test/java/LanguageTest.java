@@ -45,6 +45,12 @@ public final class LanguageTest {
         }
     }
 
+    // Rule 2; void is among the primitive types, as it should be for methods.
+    private static boolean isAllowed(Class<?> type) {
+        Class<?> single = type.isArray() ? type.getComponentType() : type;
+        return single.isPrimitive() && single != float.class && single != double.class;
+    }
+
     private static void lookAtFace() {
         Class<?> type = TightDomains.class;
         int modifiers = type.getModifiers();
@@ -74,6 +80,10 @@ public final class LanguageTest {
             due(Modifier.isPublic(modifiers) || Modifier.isPrivate(modifiers), "public or private: " + m.getName());
             due(Modifier.isPublic(modifiers) || !publicNames.contains(m.getName()), "a name of its own: " + m.getName());
             due(!m.getReturnType().isArray(), "no array answered: " + m.getName());
+            due(isAllowed(m.getReturnType()), "a type of rule 2 answered: " + m.getName());
+            for (Class<?> parameter : m.getParameterTypes()) {
+                due(isAllowed(parameter), "parameters of the types of rule 2: " + m.getName());
+            }
         }
     }
 
@@ -86,6 +96,7 @@ public final class LanguageTest {
                 publicNames.add(f.getType() + " " + f.getName());
             }
             due(Modifier.isPublic(modifiers) || Modifier.isPrivate(modifiers), "public or private: " + f.getName());
+            due(isAllowed(f.getType()), "a type of rule 2: " + f.getName());
             if (Modifier.isStatic(modifiers)) {
                 due(Modifier.isFinal(modifiers) && (f.getType() == int.class || f.getType() == long.class),
                         "a static field is a constant of int or long: " + f.getName());
@@ -108,6 +119,15 @@ public final class LanguageTest {
         Matcher madeInFields = Pattern.compile(
                 "(?m)^    private final \\w+\\[\\] \\w+ = new \\w+\\[[A-Z_]+\\];$").matcher(text);
         due(made.results().count() == madeInFields.results().count(), "arrays are made in fields' initialisers alone");
+    }
+
+    // Rules 7 and 8, more narrowly than they say: each loop counts up to a constant, nothing divides.
+    private static void lookAtLoops(String text) {
+        long loops = Pattern.compile("\\b(for|while|do)\\b").matcher(text).results().count();
+        long counted = Pattern.compile("\\bfor \\(int (\\w+) = \\d+; \\1 <=? [A-Z_]+; \\1\\+\\+\\) \\{")
+                .matcher(text).results().count();
+        due(loops > 0 && loops == counted, "every loop counts up to a constant");
+        due(!text.contains("/") && !text.contains("%"), "nothing divides");
     }
 
     // Rule 10. A word before a bracket is a call, or the head of a method, which has no calls in it.
@@ -166,6 +186,7 @@ public final class LanguageTest {
         lookAtMethods();
         lookAtFields();
         lookAtWords(text);
+        lookAtLoops(text);
         lookAtCalls(text);
         lookAtMethodBodies(text);
         System.out.println(wrong == 0 ? "every rule looked at is kept" : wrong + " rules are not kept");
