@@ -1,4 +1,5 @@
 import java.io.IOException;
+import java.lang.reflect.Array;
 import java.lang.reflect.Constructor;
 import java.lang.reflect.Field;
 import java.lang.reflect.Method;
@@ -8,6 +9,7 @@ import java.nio.file.Path;
 import java.util.ArrayDeque;
 import java.util.Arrays;
 import java.util.Deque;
+import java.util.List;
 import java.util.Map;
 import java.util.Set;
 import java.util.TreeMap;
@@ -26,12 +28,12 @@ public final class LanguageTest {
             "int count()", "int exhausted()", "int unused()", "int lack()", "int tight()",
             "int spareable()", "int missing()");
 
-    // Rules 1, 2, 3, 4, 6 and 11: none of these may stand in the text outside comments.
+    // Rules 1, 2, 3, 4 and 6: none of these may stand in the text outside comments.
     private static final String[] FORBIDDEN_WORDS = {
-            "package", "import", "interface", "enum", "record", "float", "double", "String", "Math",
-            "Integer", "System", "Arrays", "Object", "Thread", "null", "throw", "throws", "try",
-            "catch", "synchronized", "assert", "instanceof", "protected", "native", "extends",
-            "implements", "equals", "hashCode", "toString", "getClass", "clone", "length"};
+            "package", "import", "interface", "enum", "record", "float", "double", "null", "throw",
+            "throws", "try", "catch", "synchronized", "assert", "instanceof", "protected", "native",
+            "extends", "implements", "equals", "hashCode", "toString", "getClass", "clone",
+            "finalize", "notify", "notifyAll", "wait", "length"};
     private static final String[] FORBIDDEN_SIGNS = {"->", "::", "\"", "'", "[][]", "@"};
 
     private static final Set<String> NOT_CALLS = Set.of("if", "for", "while", "switch", "return");
@@ -97,6 +99,7 @@ public final class LanguageTest {
             }
             due(Modifier.isPublic(modifiers) || Modifier.isPrivate(modifiers), "public or private: " + f.getName());
             due(isAllowed(f.getType()), "a type of rule 2: " + f.getName());
+            due(!f.getType().isArray() || Modifier.isFinal(modifiers), "no method assigns to " + f.getName());
             if (Modifier.isStatic(modifiers)) {
                 due(Modifier.isFinal(modifiers) && (f.getType() == int.class || f.getType() == long.class),
                         "a static field is a constant of int or long: " + f.getName());
@@ -115,17 +118,57 @@ public final class LanguageTest {
         for (String sign : FORBIDDEN_SIGNS) {
             due(!text.contains(sign), "without the sign " + sign);
         }
-        Matcher made = Pattern.compile("\\bnew\\b").matcher(text);
-        Matcher madeInFields = Pattern.compile(
-                "(?m)^    private final \\w+\\[\\] \\w+ = new \\w+\\[[A-Z_]+\\];$").matcher(text);
-        due(made.results().count() == madeInFields.results().count(), "arrays are made in fields' initialisers alone");
+    }
+
+    // Rules 2, 3, 6 and 11: a type that is no number type, or anything of the library, would stand
+    // here with a name in capitals and small letters.
+    private static void lookAtNames(String text) {
+        Matcher name = Pattern.compile("\\b[A-Z]\\w*").matcher(text);
+        while (name.find()) {
+            boolean constant = name.group().matches("[A-Z_]+");
+            due(constant || name.group().equals("TightDomains"), "without the name " + name.group());
+        }
+    }
+
+    // Rule 1.
+    private static void lookAtFile(String text) throws IOException {
+        due(count("\\bclass\\b", text) == 1, "one class in the file");
+        try (var files = Files.walk(SOURCE.getParent())) {
+            due(files.filter(Files::isRegularFile).toList().equals(List.of(SOURCE)), "one file");
+        }
+    }
+
+    // Rule 5. What is static is a constant reckoned from numbers and constants, or a private method.
+    private static void lookAtStatics(String text) {
+        long constants = count("(?m)^    (public|private) static final (int|long) [A-Z_]+ = [-+*<>() A-Z_\\d]+;$", text);
+        long methods = count("(?m)^    private static \\w+ \\w+\\([^)]*\\) \\{$", text);
+        due(count("\\bstatic\\b", text) == constants + methods, "static constants and private methods alone");
+    }
+
+    // Rule 4, more narrowly than it says: arrays are fields made in their initialisers, and their
+    // names stand before an index alone, so none is answered, compared, handed on or named anew.
+    private static void lookAtArrays(String text) throws ReflectiveOperationException {
+        long made = count("(?m)^    private final \\w+\\[\\] \\w+ = new \\w+\\[[A-Z_]+\\];$", text);
+        due(count("\\bnew\\b", text) == made, "arrays are made in fields' initialisers alone");
+        due(count("\\[\\s*\\]", text) == made, "no array but the fields");
+        TightDomains x = new TightDomains();
+        for (Field f : TightDomains.class.getDeclaredFields()) {
+            if (f.getType().isArray()) {
+                f.setAccessible(true);
+                due(Array.getLength(f.get(x)) >= 1, "a length of 1 or more: " + f.getName());
+                due(count("\\b" + f.getName() + "\\b(?!\\[)", text) == 1, "with an index: " + f.getName());
+            }
+        }
+    }
+
+    private static long count(String pattern, String text) {
+        return Pattern.compile(pattern).matcher(text).results().count();
     }
 
     // Rules 7 and 8, more narrowly than they say: each loop counts up to a constant, nothing divides.
     private static void lookAtLoops(String text) {
-        long loops = Pattern.compile("\\b(for|while|do)\\b").matcher(text).results().count();
-        long counted = Pattern.compile("\\bfor \\(int (\\w+) = \\d+; \\1 <=? [A-Z_]+; \\1\\+\\+\\) \\{")
-                .matcher(text).results().count();
+        long loops = count("\\b(for|while|do)\\b", text);
+        long counted = count("\\bfor \\(int (\\w+) = \\d+; \\1 <=? [A-Z_]+; \\1\\+\\+\\) \\{", text);
         due(loops > 0 && loops == counted, "every loop counts up to a constant");
         due(!text.contains("/") && !text.contains("%"), "nothing divides");
     }
@@ -179,13 +222,17 @@ public final class LanguageTest {
         return deepest;
     }
 
-    public static void main(String[] args) throws IOException {
+    public static void main(String[] args) throws IOException, ReflectiveOperationException {
         String source = Files.readString(SOURCE);
         String text = source.replaceAll("(?s)/\\*.*?\\*/", "").replaceAll("//[^\\n]*", "");
         lookAtFace();
         lookAtMethods();
         lookAtFields();
+        lookAtFile(text);
         lookAtWords(text);
+        lookAtNames(text);
+        lookAtStatics(text);
+        lookAtArrays(text);
         lookAtLoops(text);
         lookAtCalls(text);
         lookAtMethodBodies(text);

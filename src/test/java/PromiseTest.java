@@ -330,16 +330,6 @@ public final class PromiseTest {
         due("16 an empty domain and a lack", withDomains(1, 1, 0, 64, 64).missing(), NONE);
     }
 
-    private static void exampleOfTheReadme() {
-        TightDomains x = new TightDomains();
-        x.domain(0, 3);
-        x.domain(1, 3);
-        x.allow(2, 6, 0);
-        x.capacity(5, 2);
-        due("README fillable()", x.fillable(), true);
-        due("README support(2)", x.support(2), 60);
-    }
-
     public static void main(String[] args) {
         promise1NewObject();
         promise2Domain();
@@ -357,7 +347,6 @@ public final class PromiseTest {
         promise14Tight();
         promise15Spareable();
         promise16Missing();
-        exampleOfTheReadme();
         System.out.println(wrong == 0 ? "all answers are as due" : wrong + " answers are not as due");
         if (wrong != 0) {
             System.exit(1);
