@@ -128,6 +128,7 @@ public final class LanguageTest {
             boolean constant = name.group().matches("[A-Z_]+");
             due(constant || name.group().equals("TightDomains"), "without the name " + name.group());
         }
+        due(count("\\bTightDomains\\b", text) == 2, "the class's name at its head and its constructor alone");
     }
 
     // Rule 1.
